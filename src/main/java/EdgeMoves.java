@@ -277,7 +277,7 @@ public final class EdgeMoves {
         }
         handover.look(graph.goalOf(e), graph.edges[e]);
         for (int b = 0; b + w <= BYTES; b += w) {
-            int region = Regions.told(b, w);
+            int region = Regions.asTold(b, w);
             if (!handover.touches(region)) {
                 return region;
             }
@@ -498,7 +498,7 @@ public final class EdgeMoves {
         int b = graph.addBlock();
         for (int i = 0; i < n; i++) {
             int width = 4 >> dice.nextBelow(3);
-            graph.addParameter(b, Regions.told(4 * i, width));
+            graph.addParameter(b, Regions.asTold(4 * i, width));
         }
     }
 
@@ -514,7 +514,7 @@ public final class EdgeMoves {
             int k = dice.nextBelow(8);
             graph.edges[e].arguments[i] = k == 7
                 ? Regions.toldConstant((int) (dice.x / 1024 % CONSTANTS))
-                : Regions.told(4 * k, Regions.width(goal.parameters[i]));
+                : Regions.asTold(4 * k, Regions.width(goal.parameters[i]));
         }
     }
 
@@ -524,7 +524,7 @@ public final class EdgeMoves {
             return w == 1 || w == 2 || w == 4;
         }
 
-        static int told(int b, int w) {
+        static int asTold(int b, int w) {
             return 10 * b + w;
         }
 
@@ -1164,7 +1164,7 @@ public final class EdgeMoves {
             if (Prices.isRingChanged(kind, w, size)) {
                 changeRing(first, size);
             } else {
-                int spare = Regions.told(BYTES, w);
+                int spare = Regions.asTold(BYTES, w);
                 add(MOVE, spare, parameters[first]);
                 moveWhatLies(parameters[first], spare);
             }
