@@ -253,6 +253,10 @@ public final class PromisesTest {
         clearIs("b;b 4 82;e0 1 0:164 202;", 1);
         clearIs("b;b 4 82 101;e0 1 0:4 202 211;", 0);
         clearIs("b;b 4 82 101;e0 1 0:4 202 221;", 1);
+        clearIs("b;b 2 41;e0 1 0:42 1;", 0);
+        // the least region there is, as an argument or as a parameter
+        clearIs("b;b 1 44;e0 1 0:11 4;", 0);
+        clearIs("b;b 41 84;e0 1 0:1 4;", 0);
         // the same argument twice is like, not across
         clearIs("b;b 4 84;e0 1 0:164 164;", 1);
     }
@@ -370,6 +374,10 @@ public final class PromisesTest {
         due("15 given(0, 0)", x.given(0, 0), 4);
         due("15 arguments are the parameters at first", Checks.readText(x, "b 4 81;e0 0 9;"), 2);
         due("15 given(0, 1)", x.given(0, 1), 81);
+        due("15 one item", Checks.readText(x, "b 84;"), 1);
+        due("15 one block", x.told(4), 1);
+        due("15 no edges", x.told(5), 0);
+        due("15 region(0, 0)", x.region(0, 0), 84);
         due("15 ten blocks", Checks.readText(x, "b;b;b;b;b;b;b;b;b;b;"), 10);
         due("15 a block behind", Checks.readText(x, "b;" + "e0 0 0;".repeat(16) + "b;"), 18);
         due("15 sixteen edges", Checks.readText(x, "b;" + "e0 0 0;".repeat(16)), 17);
@@ -731,6 +739,7 @@ public final class PromisesTest {
         freeIs(SIX + "e0 1 0:244 4 4 4 4 4;", 284, 282, 281);
         freeIs("b;b 4 44 84 124 164 201;e0 1 0:244 284 4 4 4 211;", NONE, 222, 221);
         freeIs("b;b 4 44 84 124 164 201;e0 1 0:244 284 4 4 4 231;", NONE, NONE, 211);
+        freeIs("b;b 4;e0 1 0:#0;", 44, 42, 41);
         // not clear is no matter
         freeIs("b;b 4 82;e0 1 0:124 2;", 44, 42, 41);
         EdgeMoves x = Checks.of("b;e0 0 0;");
@@ -831,6 +840,8 @@ public final class PromisesTest {
         due("25 none", x.dearest(), NONE);
         x = Checks.of("b;b 4 82;e0 1 99:44 2;");
         due("25 none is clear", x.dearest(), NONE);
+        x = Checks.of("b 4;e0 0 0:44;");
+        due("25 the first one, of no weight", x.dearest(), 0);
         x = Checks.of("b;b 4 82;e0 1 99:44 2;e0 1 0;");
         due("25 it may cost nothing", x.dearest(), 1);
         x = Checks.of("b;b 4 42;e0 1 9;e0 1 4:44 #1;e0 1 8:84 42;e0 1 7:#1 42;e0 1 4:#1 #1;");
