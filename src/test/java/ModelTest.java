@@ -1,4 +1,3 @@
-import java.lang.reflect.Method;
 import java.util.Random;
 
 /** Drawn runs of calls, each answer held against the model's. */
@@ -19,7 +18,7 @@ public final class ModelTest {
         dice = new Random(run);
     }
 
-    public static void main(String[] args) throws Exception {
+    public static void main(String[] args) {
         for (int run = 0; run < 3000; run++) {
             ModelTest test = new ModelTest(run);
             switch (run % 4) {
@@ -32,19 +31,10 @@ public final class ModelTest {
         CHECKS.end();
     }
 
-    private long call(String name, int... numbers) throws Exception {
-        Class<?>[] types = new Class<?>[numbers.length];
-        Object[] values = new Object[numbers.length];
-        StringBuilder told = new StringBuilder("run " + run + ", call " + calls++ + ": " + name);
-        for (int i = 0; i < numbers.length; i++) {
-            types[i] = int.class;
-            values[i] = numbers[i];
-            told.append(' ').append(numbers[i]);
-        }
-        Method ours = EdgeMoves.class.getMethod(name, types);
-        Method theirs = Model.class.getMethod(name, types);
-        long got = ((Number) ours.invoke(x, values)).longValue();
-        CHECKS.due(told.toString(), got, ((Number) theirs.invoke(model, values)).longValue());
+    private long call(String name, int... numbers) {
+        long got = Calls.make(x, name, numbers);
+        long want = Calls.make(model, name, numbers);
+        CHECKS.due("run " + run + ", call " + calls++ + ": " + Calls.told(name, numbers), got, want);
         return got;
     }
 
@@ -65,7 +55,7 @@ public final class ModelTest {
         return 10 * (dice.nextInt(bytes / w) * w) + w;
     }
 
-    private void drawnCalls() throws Exception {
+    private void drawnCalls() {
         while (calls < 500) {
             switch (dice.nextInt(12)) {
                 case 0 -> call("block");
@@ -83,7 +73,7 @@ public final class ModelTest {
         call("digest");
     }
 
-    private void ask() throws Exception {
+    private void ask() {
         switch (dice.nextInt(18)) {
             case 0 -> call("of", below(16), below(5));
             case 1 -> call("about", below(10), below(3));
@@ -106,7 +96,7 @@ public final class ModelTest {
         }
     }
 
-    private void askAllOf(int e) throws Exception {
+    private void askAllOf(int e) {
         for (int what = 0; what < 5; what++) {
             call("steps", e, what);
             call("of", e, what);
@@ -127,7 +117,7 @@ public final class ModelTest {
         call("cheapest", e, 1);
     }
 
-    private void drawnGraphs() throws Exception {
+    private void drawnGraphs() {
         call("draw", dice.nextInt(1000000), dice.nextInt(7), dice.nextInt(17));
         call("digest");
         call("machine", dice.nextInt(5));
@@ -147,7 +137,7 @@ public final class ModelTest {
     }
 
     /** Few places and like widths, so that there are rings, and several edges with like tails. */
-    private void tightGraphs() throws Exception {
+    private void tightGraphs() {
         int w = WIDTHS[dice.nextInt(WIDTHS.length)];
         int n = 2 + dice.nextInt(5);
         call("block");
@@ -176,7 +166,7 @@ public final class ModelTest {
     }
 
     /** By the spare place alone an edge takes as many moves as are open, and one for each ring. */
-    private void movesAreFewest(int e) throws Exception {
+    private void movesAreFewest(int e) {
         call("machine", 0);
         long rings = call("rings", e, 0);
         long open = 0;
@@ -188,7 +178,7 @@ public final class ModelTest {
         CHECKS.due("run " + run + ": moves to the spare place of edge " + e, call("steps", e, 4), rings);
     }
 
-    private void typedTexts() throws Exception {
+    private void typedTexts() {
         while (calls < 380) {
             String text = dice.nextInt(3) == 0 ? spoilt(drawnText()) : drawnText();
             call("clear");
