@@ -736,6 +736,9 @@ public final class EdgeMoves {
 
     /** Reads the items of a text into a graph; a function that answers false, or below 0, has noted the fault. */
     private static final class Reader {
+        /** Neither a region nor a constant, and above all bounds. */
+        private static final int NOT_AS_TOLD = 1000;
+
         private final Text text;
         private Graph into;
         private int place;
@@ -779,13 +782,13 @@ public final class EdgeMoves {
             return c >= '0' && c <= '9';
         }
 
-        /** The number that begins here; -1 if it has too many figures. */
+        /** The number of three figures at most that begins here. */
         private int readNumber() {
             int number = 0;
             int figures = 0;
             while (place < text.length && isFigure(text.at(place))) {
                 figures++;
-                number = figures > 3 ? -1 : 10 * number + text.at(place) - '0';
+                number = figures > 3 ? NOT_AS_TOLD : 10 * number + text.at(place) - '0';
                 place++;
             }
             return number;
@@ -853,27 +856,25 @@ public final class EdgeMoves {
 
         private boolean readArguments(Block goal, Edge edge) {
             for (int i = 0; i < goal.count; i++) {
-                int c = nextByte();
+                boolean isConstant = nextByte() == '#';
                 int start = place;
-                if (c == '#') {
-                    place++;
-                    if (!isFigure(text.at(place))) {
-                        return failAt(start);
-                    }
-                    int number = readNumber();
-                    if (!isBelow(number, CONSTANTS)) {
-                        return failAt(start);
-                    }
-                    edge.arguments[i] = Regions.toldConstant(number);
-                } else {
-                    int region = isFigure(c) ? readNumber() : -1;
-                    if (!Regions.isAsWide(region, goal.parameters[i])) {
-                        return failAt(start);
-                    }
-                    edge.arguments[i] = region;
+                int argument = isConstant ? readConstant() : readRegion();
+                if (!Regions.isConstant(argument) && !Regions.isAsWide(argument, goal.parameters[i])) {
+                    return failAt(start);
                 }
+                edge.arguments[i] = argument;
             }
             return true;
+        }
+
+        private int readRegion() {
+            return isFigure(text.at(place)) ? readNumber() : NOT_AS_TOLD;
+        }
+
+        /** The constant that the sign here begins, told as arguments are. */
+        private int readConstant() {
+            place++;
+            return isFigure(text.at(place)) ? Regions.toldConstant(readNumber()) : NOT_AS_TOLD;
         }
     }
 

@@ -22,6 +22,7 @@ public final class CallBoundsTest {
         noneAndFaultsAreNotRefused();
         aNewObject();
         anewOfNoneAndOfAll();
+        whatWentIsNotSeen();
         blockIsFull();
         parameterIsFull();
         parameterIsAnArgumentToAllEdgesThatGoToIt();
@@ -86,7 +87,8 @@ public final class CallBoundsTest {
         x = watch("BAD ahead of FULL").type(" ".repeat(120)).refused(FULL, "type", 127).refused(BAD, "type", 128);
         x = watch("BAD ahead of NO").read(NOT_CLEAR);
         x.refused(NO, "steps", 0, 4).refused(BAD, "steps", 0, 5).refused(BAD, "steps", 1, 4);
-        x.refused(NO, "step", 0, 0, 2).refused(BAD, "step", 0, 0, 3).refused(BAD, "step", 0, -1, 2).refused(BAD, "step", 1, 0, 2);
+        x.refused(NO, "step", 0, 0, 2).refused(BAD, "step", 0, 0, 3).refused(BAD, "step", 0, -1, 2)
+            .refused(BAD, "step", 1, 0, 2);
         x.refused(NO, "cost", 0).refused(BAD, "cost", 1);
         x.refused(NO, "rings", 0, 2).refused(BAD, "rings", 0, 3).refused(BAD, "rings", 1, 2);
         x.refused(NO, "cheapest", 0, 1).refused(BAD, "cheapest", 0, 2).refused(BAD, "cheapest", 1, 1);
@@ -100,7 +102,8 @@ public final class CallBoundsTest {
         x.refused(NO, "parameter", 1, 204).refused(NO, "parameter", 1, 231).refused(NO, "parameter", 1, 22);
         x.refused(FULL, "parameter", 1, 241).refused(FULL, "parameter", 1, 242).refused(FULL, "parameter", 1, 284);
         // not as many as may be: only NO
-        watch("NO").read("b 4 44 84 124 164;").refused(NO, "parameter", 0, 164).due(5, "parameter", 0, 204).refused(FULL, "parameter", 0, 244);
+        watch("NO").read("b 4 44 84 124 164;").refused(NO, "parameter", 0, 164).due(5, "parameter", 0, 204)
+            .refused(FULL, "parameter", 0, 244);
     }
 
     private static void refusedChangesHowOftenAlone() {
@@ -133,7 +136,8 @@ public final class CallBoundsTest {
             x.same(0, "told", what);
         }
         x.same(52631630794343L, "digest").same(0, "clear").same(0, "anew").same(-300, "read").same(0, "machine", 0);
-        x.refused(BAD, "parameter", 0, 4).refused(BAD, "edge", 0, 0, 0).refused(BAD, "argument", 0, 0, 4).refused(BAD, "weight", 0, 0);
+        x.refused(BAD, "parameter", 0, 4).refused(BAD, "edge", 0, 0, 0).refused(BAD, "argument", 0, 0, 4)
+            .refused(BAD, "weight", 0, 0);
         x.refused(BAD, "of", 0, 0).refused(BAD, "about", 0, 0).refused(BAD, "region", 0, 0).refused(BAD, "given", 0, 0);
         x.refused(BAD, "steps", 0, 0).refused(BAD, "step", 0, 0, 0).refused(BAD, "cost", 0).refused(BAD, "rings", 0, 0);
         x.refused(BAD, "cheapest", 0, 0).refused(BAD, "free", 0, 4).refused(BAD, "tail", 0).refused(BAD, "run", 0, 0, 0);
@@ -151,10 +155,29 @@ public final class CallBoundsTest {
         x.due(0, "edge", 0, 0, 0).same(NONE, "given", 0, 0).due(1, "anew").due(2, "read");
     }
 
+    // 2: "All BLOCKS and EDGES go"
+
+    private static void whatWentIsNotSeen() {
+        Watch x = watch("2 all go").due(0, "block").due(1, "block").due(0, "parameter", 1, 4).due(1, "parameter", 1, 82);
+        x.due(0, "edge", 0, 1, 9).due(82, "argument", 0, 1, 2).due(1, "edge", 1, 0, 9).due(2, "anew");
+        x.due(0, "block").due(1, "block").due(0, "parameter", 1, 4).due(0, "edge", 0, 1, 0).due(4, "argument", 0, 0, 44);
+        x.same(1, "of", 0, 3).same(0, "whole", 2).same(1, "steps", 0, 0).same(1, "rings", 0, 2).same(1, "tail", 1);
+        x.same(81, "free", 0, 1).same(NONE, "reach", 1, 0).same(0, "about", 1, 1).same(NONE, "given", 0, 1);
+        x = watch("2 all go").due(16, "draw", 9, 6, 16).due(16, "anew");
+        for (int b = 0; b < 8; b++) {
+            x.due(b, "block").same(0, "about", b, 1).same(0, "about", b, 2).same(0, "tail", b);
+        }
+        for (int b = 1; b < 8; b++) {
+            x.same(NONE, "reach", 0, b).same(NONE, "reach", b, 0);
+        }
+        x.same(NONE, "dearest").same(0, "whole", 0).same(0, "whole", 2).same(0, "whole", 3);
+    }
+
     // 3: "A BLOCK comes: its number. FULL."
 
     private static void blockIsFull() {
-        Watch x = watch("3 FULL").due(0, "draw", 9, 6, 0).due(8, "block").due(9, "block").refused(FULL, "block").same(10, "told", 4);
+        Watch x = watch("3 FULL").due(0, "draw", 9, 6, 0).due(8, "block").due(9, "block").refused(FULL, "block")
+            .same(10, "told", 4);
         x.same(0, "about", 9, 0).due(0, "anew").due(0, "block").same(1, "told", 2).same(1, "told", 4);
         x.read("b;b;b;b;b;b;b;b;b;").due(9, "block").refused(FULL, "block");
     }
@@ -174,7 +197,8 @@ public final class CallBoundsTest {
     private static void parameterIsAnArgumentToAllEdgesThatGoToIt() {
         Watch x = watch("4 all EDGES that go to it").read("b;b;e0 1 0;e1 0 0;e1 1 0;e0 0 0;").due(0, "parameter", 1, 42);
         x.same(42, "given", 0, 0).same(NONE, "given", 1, 0).same(42, "given", 2, 0).same(NONE, "given", 3, 0);
-        x.due(0, "parameter", 0, 4).same(4, "given", 1, 0).same(4, "given", 3, 0).same(NONE, "given", 0, 1).same(NONE, "given", 1, 1);
+        x.due(0, "parameter", 0, 4).same(4, "given", 1, 0).same(4, "given", 3, 0).same(NONE, "given", 0, 1)
+            .same(NONE, "given", 1, 1);
         x = watch("4 to none").due(0, "block").due(0, "parameter", 0, 4).same(0, "told", 5);
     }
 
@@ -191,7 +215,8 @@ public final class CallBoundsTest {
     private static void itIsToldWhichItWas() {
         Watch x = watch("6, 7, 8 what it was").read("b 1 22 44;e0 0 0;");
         x.same(1, "argument", 0, 0, 1).same(22, "argument", 0, 1, 22).same(44, "argument", 0, 2, 44);
-        x.due(44, "argument", 0, 2, -100).same(-100, "argument", 0, 2, -100).due(-100, "argument", 0, 2, 284).same(284, "given", 0, 2);
+        x.due(44, "argument", 0, 2, -100).same(-100, "argument", 0, 2, -100).due(-100, "argument", 0, 2, 284)
+            .same(284, "given", 0, 2);
         x.same(0, "weight", 0, 0).due(0, "weight", 0, 99).same(99, "weight", 0, 99).due(99, "weight", 0, 0);
         x.same(0, "machine", 0).due(0, "machine", 4).same(4, "machine", 4).due(4, "machine", 0);
         // not as wide
@@ -203,7 +228,8 @@ public final class CallBoundsTest {
 
     private static void ofEnds() {
         Watch x = watch("9 (0) to (4)").read("b;b 4 82;e0 1 99:44 2;e0 0 0;");
-        x.same(0, "of", 0, 0).same(1, "of", 0, 1).same(99, "of", 0, 2).same(0, "of", 0, 3).same(1, "of", 0, 4).same(1, "of", 1, 3);
+        x.same(0, "of", 0, 0).same(1, "of", 0, 1).same(99, "of", 0, 2).same(0, "of", 0, 3).same(1, "of", 0, 4)
+            .same(1, "of", 1, 3);
         x.refused(BAD, "of", 0, 5).refused(BAD, "of", 0, -1).refused(BAD, "of", 0, MOST).refused(BAD, "of", 0, LEAST);
         x.refused(BAD, "of", 2, 0).refused(BAD, "of", -1, 0);
     }
@@ -214,7 +240,8 @@ public final class CallBoundsTest {
         Watch x = watch("10 (0) to (2)").read(SIX + "e1 0 0;e1 0 0;e0 1 0;");
         x.same(6, "about", 1, 0).same(2, "about", 1, 1).same(1, "about", 1, 2);
         x.same(0, "about", 0, 0).same(1, "about", 0, 1).same(2, "about", 0, 2);
-        x.refused(BAD, "about", 0, 3).refused(BAD, "about", 0, -1).refused(BAD, "about", 0, MOST).refused(BAD, "about", 0, LEAST);
+        x.refused(BAD, "about", 0, 3).refused(BAD, "about", 0, -1).refused(BAD, "about", 0, MOST)
+            .refused(BAD, "about", 0, LEAST);
         x.refused(BAD, "about", 2, 0).refused(BAD, "about", -1, 0);
         watch("10 none").due(0, "block").same(0, "about", 0, 0).same(0, "about", 0, 1).same(0, "about", 0, 2);
     }
@@ -234,14 +261,16 @@ public final class CallBoundsTest {
     private static void givenEnds() {
         Watch x = watch("12 i below 0, too").read(SIX + "e0 1 0:4 4 4 4 4 #9;e1 0 0;");
         x.same(4, "given", 0, 0).same(-10, "given", 0, 5).same(NONE, "given", 0, 6).same(NONE, "given", 0, MOST);
-        x.same(NONE, "given", 1, 0).refused(BAD, "given", 0, -1).refused(BAD, "given", 0, LEAST).refused(BAD, "given", 1, -1);
+        x.same(NONE, "given", 1, 0).refused(BAD, "given", 0, -1).refused(BAD, "given", 0, LEAST)
+            .refused(BAD, "given", 1, -1);
         x.refused(BAD, "given", 2, 0).refused(BAD, "given", 2, 6).refused(BAD, "given", -1, 0);
     }
 
     // 14: "THE TEXT is empty: how many it had."
 
     private static void clearOfNone() {
-        Watch x = watch("14 how many it had").same(0, "clear").due(1, "type", 'b').due(1, "clear").same(0, "clear").same(-300, "read");
+        Watch x = watch("14 how many it had").same(0, "clear").due(1, "type", 'b').due(1, "clear").same(0, "clear")
+            .same(-300, "read");
         // what it had is not read again
         x.type("b;").due(2, "clear").due(1, "type", ' ').same(-301, "read").same(0, "told", 4);
         x.type(" ".repeat(120)).due(120, "clear").same(0, "told", 3).due(1, "type", 0);
@@ -251,11 +280,15 @@ public final class CallBoundsTest {
 
     private static void stepsEnd() {
         Watch x = watch("16 (0) to (4)").read(SIX + "e0 1 0:44 4 124 84 244 #0;");
-        x.same(8, "steps", 0, 0).same(7, "steps", 0, 1).same(0, "steps", 0, 2).same(1, "steps", 0, 3).same(2, "steps", 0, 4);
-        x.refused(BAD, "steps", 0, 5).refused(BAD, "steps", 0, -1).refused(BAD, "steps", 0, MOST).refused(BAD, "steps", 0, LEAST);
+        x.same(8, "steps", 0, 0).same(7, "steps", 0, 1).same(0, "steps", 0, 2).same(1, "steps", 0, 3)
+            .same(2, "steps", 0, 4);
+        x.refused(BAD, "steps", 0, 5).refused(BAD, "steps", 0, -1).refused(BAD, "steps", 0, MOST)
+            .refused(BAD, "steps", 0, LEAST);
         x.refused(BAD, "steps", 1, 0).refused(BAD, "steps", -1, 0).due(0, "machine", CHANGER);
-        x.same(4, "steps", 0, 0).same(1, "steps", 0, 1).same(2, "steps", 0, 2).same(1, "steps", 0, 3).same(0, "steps", 0, 4);
-        x = watch("16 not CLEAR").read(NOT_CLEAR).refused(NO, "steps", 0, 0).refused(NO, "steps", 0, 4).same(2, "told", 1);
+        x.same(4, "steps", 0, 0).same(1, "steps", 0, 1).same(2, "steps", 0, 2).same(1, "steps", 0, 3)
+            .same(0, "steps", 0, 4);
+        x = watch("16 not CLEAR").read(NOT_CLEAR).refused(NO, "steps", 0, 0).refused(NO, "steps", 0, 4)
+            .same(2, "told", 1);
         x.due(2, "argument", 0, 1, 82).same(1, "steps", 0, 0).same(2, "told", 1);
     }
 
@@ -267,9 +300,11 @@ public final class CallBoundsTest {
             x.same(NONE, "step", 0, 2, what).same(NONE, "step", 0, MOST, what).same(NONE, "step", 1, 0, what);
             x.refused(BAD, "step", 0, -1, what).refused(BAD, "step", 0, LEAST, what).refused(BAD, "step", 1, -1, what);
         }
-        x.refused(BAD, "step", 0, 0, 3).refused(BAD, "step", 0, 0, -1).refused(BAD, "step", 0, 2, 3).refused(BAD, "step", 1, 0, -1);
+        x.refused(BAD, "step", 0, 0, 3).refused(BAD, "step", 0, 0, -1).refused(BAD, "step", 0, 2, 3)
+            .refused(BAD, "step", 1, 0, -1);
         x.refused(BAD, "step", 2, 0, 0).refused(BAD, "step", -1, 0, 0);
-        x = watch("17 not CLEAR").read(NOT_CLEAR).refused(NO, "step", 0, 0, 0).refused(NO, "step", 0, MOST, 0).refused(BAD, "step", 0, -1, 0);
+        x = watch("17 not CLEAR").read(NOT_CLEAR).refused(NO, "step", 0, 0, 0).refused(NO, "step", 0, MOST, 0)
+            .refused(BAD, "step", 0, -1, 0);
         // nine are as many as there may be
         x = watch("17 as many as may be").read(SIX + "e0 1 0:44 4 124 84 204 164;");
         x.same(204, "step", 0, 8, 1).same(324, "step", 0, 8, 2).same(NONE, "step", 0, 9, 0).same(NONE, "step", 0, 9, 1);
@@ -301,7 +336,8 @@ public final class CallBoundsTest {
     private static void ringsEnd() {
         Watch x = watch("19 (0) to (2)").read(SIX + "e0 1 0:44 84 4 164 124 244;");
         x.same(2, "rings", 0, 0).same(3, "rings", 0, 1).same(1, "rings", 0, 2);
-        x.refused(BAD, "rings", 0, 3).refused(BAD, "rings", 0, -1).refused(BAD, "rings", 0, MOST).refused(BAD, "rings", 0, LEAST);
+        x.refused(BAD, "rings", 0, 3).refused(BAD, "rings", 0, -1).refused(BAD, "rings", 0, MOST)
+            .refused(BAD, "rings", 0, LEAST);
         x.refused(BAD, "rings", 1, 0).refused(BAD, "rings", -1, 0);
         watch("19 not CLEAR").read(NOT_CLEAR).refused(NO, "rings", 0, 0).refused(NO, "rings", 0, 2);
     }
@@ -346,9 +382,11 @@ public final class CallBoundsTest {
             x.same(0, "cheapest", 0, 0).same(0, "cheapest", 0, 1).same(0, "cheapest", 1, 0).same(2, "cheapest", 1, 1);
             x.same(1, "cheapest", 2, 0).same(1, "cheapest", 2, 1).same(kind, "told", 6);
         }
-        x.refused(BAD, "cheapest", 0, 2).refused(BAD, "cheapest", 0, -1).refused(BAD, "cheapest", 0, MOST).refused(BAD, "cheapest", 3, 0);
+        x.refused(BAD, "cheapest", 0, 2).refused(BAD, "cheapest", 0, -1).refused(BAD, "cheapest", 0, MOST)
+            .refused(BAD, "cheapest", 3, 0);
         watch("20 not CLEAR").read(NOT_CLEAR).refused(NO, "cheapest", 0, 0).refused(NO, "cheapest", 0, 1);
-        watch("20 a ring of the whole BLOCK").read(SIX + "e0 1 0:44 84 124 164 204 4;").same(1, "cheapest", 0, 0).same(5, "cheapest", 0, 1);
+        watch("20 a ring of the whole BLOCK").read(SIX + "e0 1 0:44 84 124 164 204 4;").same(1, "cheapest", 0, 0)
+            .same(5, "cheapest", 0, 1);
     }
 
     // 21: "The least REGION w (1, 2, 4) wide that no PARAMETER ..., no ARGUMENT ... is like or ACROSS"
@@ -382,14 +420,16 @@ public final class CallBoundsTest {
         free(watch("21 the last byte").read("b;b 4 44 84 124 162 181;e0 1 0:164 204 244 124 282 301;"), 0, NONE, NONE, 311);
         free(watch("21 the first byte").read("b;b 11 22 44 84 124 164;e0 1 0:11 22 204 244 284 164;"), 0, NONE, NONE, 1);
         free(watch("21 none").read(SIX + "e0 1 0:244 284 84 124 164 204;"), 0, NONE, NONE, NONE);
-        Watch x = watch("21 none, not refused").read(SIX + "e0 1 0:244 284 84 124 164 204;").same(NONE, "free", 0, 4).same(0, "told", 0);
+        Watch x = watch("21 none, not refused").read(SIX + "e0 1 0:244 284 84 124 164 204;").same(NONE, "free", 0, 4)
+            .same(0, "told", 0);
         x.due(284, "argument", 0, 1, -1).same(284, "free", 0, 4);
     }
 
     // 22: "How many STEPS ... are the same on all EDGES to a BLOCK (0: no EDGES)."
 
     private static void tailOfNoEdges() {
-        watch("22 no EDGES").read("b 4;b 4;e0 1 0:44;").same(0, "tail", 0).same(1, "tail", 1).refused(BAD, "tail", 2).refused(BAD, "tail", -1);
+        watch("22 no EDGES").read("b 4;b 4;e0 1 0:44;").same(0, "tail", 0).same(1, "tail", 1).refused(BAD, "tail", 2)
+            .refused(BAD, "tail", -1);
         tailIs("", 0);
     }
 
@@ -423,7 +463,8 @@ public final class CallBoundsTest {
     // 22: "NO: one is not CLEAR."
 
     private static void tailIsNotClear() {
-        Watch x = watch("22 one is not CLEAR").read("b;b 4 82;e0 1 0;e0 1 0:44 2;e0 0 0;").refused(NO, "tail", 1).same(0, "tail", 0);
+        Watch x = watch("22 one is not CLEAR").read("b;b 4 82;e0 1 0;e0 1 0:44 2;e0 0 0;").refused(NO, "tail", 1)
+            .same(0, "tail", 0);
         x.due(2, "argument", 1, 1, 82).same(0, "tail", 1).due(4, "argument", 0, 0, 44).same(1, "tail", 1);
         watch("22 one is not CLEAR, the first").read("b;b 4 82;e0 1 0:44 2;e0 1 0;").refused(NO, "tail", 1);
         watch("22 one is not CLEAR, the last").read("b;b 4 82;e0 1 0;e0 1 0;e0 1 0:44 2;").refused(NO, "tail", 1);
@@ -440,7 +481,8 @@ public final class CallBoundsTest {
                 x.refused(BAD, "run", 0, seed, way);
             }
         }
-        x.refused(BAD, "run", 0, 0, 2).refused(BAD, "run", 0, 0, -1).refused(BAD, "run", 0, 999999, MOST).refused(BAD, "run", 0, 0, LEAST);
+        x.refused(BAD, "run", 0, 0, 2).refused(BAD, "run", 0, 0, -1).refused(BAD, "run", 0, 999999, MOST)
+            .refused(BAD, "run", 0, 0, LEAST);
         x.refused(BAD, "run", 1, 0, 0).refused(BAD, "run", -1, 0, 0).refused(BAD, "run", 1, 999999, 1);
         x = watch("23 not CLEAR").read(NOT_CLEAR).refused(NO, "run", 0, 0, 0).refused(NO, "run", 0, 999999, 1);
     }
@@ -453,7 +495,8 @@ public final class CallBoundsTest {
         Watch x = watch("23 run of " + text).read(text);
         for (int kind = 0; kind < 5; kind++) {
             x.ask("machine", kind);
-            x.same(mixed(1, bytes), "run", 0, by == BY_0 ? 0 : 999999, 0).same(mixed(1, bytes), "run", 0, by == BY_0 ? 0 : 999999, 1);
+            x.same(mixed(1, bytes), "run", 0, by == BY_0 ? 0 : 999999, 0)
+                .same(mixed(1, bytes), "run", 0, by == BY_0 ? 0 : 999999, 1);
         }
     }
 
@@ -511,7 +554,8 @@ public final class CallBoundsTest {
                 x.due(40 * i + 4, "argument", e, i, 40 * (i % 2 == 0 ? i + 1 : i - 1) + 4);
             }
         }
-        x.same(16 * 99 * 36, "whole", 0).same(16, "whole", 1).same(0, "whole", 2).same(16 * 9, "whole", 3).same(9, "tail", 1);
+        x.same(16 * 99 * 36, "whole", 0).same(16, "whole", 1).same(0, "whole", 2).same(16 * 9, "whole", 3)
+            .same(9, "tail", 1);
     }
 
     private static void wholeOfNone() {
@@ -523,14 +567,16 @@ public final class CallBoundsTest {
             y.same(what == 2 ? 1 : 0, "whole", what);
             z.same(0, "whole", what);
         }
-        y.due(1, "edge", 0, 1, 9).due(4, "argument", 1, 0, 44).due(82, "argument", 1, 1, 2).same(0, "whole", 1).same(2, "whole", 2);
+        y.due(1, "edge", 0, 1, 9).due(4, "argument", 1, 0, 44).due(82, "argument", 1, 1, 2).same(0, "whole", 1)
+            .same(2, "whole", 2);
     }
 
     // 25: "(of like ones the least number); NONE: there is none."
 
     private static void dearestIsNone() {
         Watch x = watch("25 there is none").same(NONE, "dearest").due(0, "block").same(NONE, "dearest");
-        x.read(NOT_CLEAR).same(NONE, "dearest").due(1, "edge", 0, 1, 0).same(1, "dearest").due(0, "weight", 1, 99).same(1, "dearest");
+        x.read(NOT_CLEAR).same(NONE, "dearest").due(1, "edge", 0, 1, 0).same(1, "dearest").due(0, "weight", 1, 99)
+            .same(1, "dearest");
         x.due(2, "argument", 0, 1, 82).same(0, "dearest");
     }
 
@@ -545,10 +591,13 @@ public final class CallBoundsTest {
 
     private static void reachBy0OrMore() {
         Watch x = watch("26 by 0 EDGES").due(0, "block").same(0, "reach", 0, 0).due(1, "block").same(NONE, "reach", 0, 1);
-        x.refused(BAD, "reach", 2, 0).refused(BAD, "reach", 0, 2).refused(BAD, "reach", -1, 0).refused(BAD, "reach", 0, -1);
+        x.refused(BAD, "reach", 2, 0).refused(BAD, "reach", 0, 2).refused(BAD, "reach", -1, 0)
+            .refused(BAD, "reach", 0, -1);
         x.refused(BAD, "reach", 2, 2).refused(BAD, "reach", MOST, 0).refused(BAD, "reach", 0, LEAST);
         x.due(0, "edge", 0, 0, 0).same(0, "reach", 0, 0).same(NONE, "reach", 0, 1);
         x.due(1, "edge", 0, 1, 0).same(1, "reach", 0, 1).same(NONE, "reach", 1, 0).same(0, "reach", 1, 1);
+        watch("26 by one of 16 EDGES").read("b;b;b;" + "e0 0 0;".repeat(15)).same(NONE, "reach", 0, 1)
+            .due(15, "edge", 0, 1, 0).same(1, "reach", 0, 1).same(NONE, "reach", 1, 0).same(NONE, "reach", 0, 2);
         // ten BLOCKS one behind the other, the EDGES last to first, and a shorter way at the end
         x = watch("26 as many as may be").read("b;b;b;b;b;b;b;b;b;b;");
         for (int b = 8; b >= 0; b--) {
@@ -557,7 +606,8 @@ public final class CallBoundsTest {
         for (int b = 0; b < 10; b++) {
             x.same(b, "reach", 0, b).same(9 - b, "reach", b, 9).same(b == 0 ? 0 : NONE, "reach", b, 0);
         }
-        x.due(9, "edge", 9, 0, 0).same(9, "reach", 1, 0).same(9, "reach", 0, 9).due(10, "edge", 0, 8, 0).same(2, "reach", 0, 9);
+        x.due(9, "edge", 9, 0, 0).same(9, "reach", 1, 0).same(9, "reach", 0, 9).due(10, "edge", 0, 8, 0)
+            .same(2, "reach", 0, 9);
     }
 
     // 27: "By a SEED (0 .. 999999) 8 BLOCKS with n (0 .. 6) PARAMETERS each and m (0 .. 16) EDGES ...: m. BAD."
@@ -572,7 +622,8 @@ public final class CallBoundsTest {
         for (int seed : new int[] {0, 999999}) {
             x.due(0, "draw", seed, 0, 0).same(8, "told", 4).same(0, "told", 5).same(0, "about", 7, 0);
             x.due(16, "draw", seed, 0, 16).same(8, "told", 4).same(16, "told", 5).same(NONE, "given", 15, 0);
-            x.due(0, "draw", seed, 6, 0).same(8, "told", 4).same(0, "told", 5).same(6, "about", 0, 0).same(6, "about", 7, 0);
+            x.due(0, "draw", seed, 6, 0).same(8, "told", 4).same(0, "told", 5).same(6, "about", 0, 0)
+                .same(6, "about", 7, 0);
             x.due(16, "draw", seed, 6, 16).same(16, "told", 5).refused(BAD, "about", 8, 0).refused(BAD, "of", 16, 0);
             x.due(1, "draw", seed, 1, 1).same(1, "about", 7, 0).same(1, "told", 5);
         }
@@ -580,7 +631,8 @@ public final class CallBoundsTest {
 
     private static void drawTakesThePlaceOfAll() {
         Watch x = watch("27 take the place of all").read("b 4;b;e1 0 5:#7;").due(0, "machine", 3).due(0, "draw", 0, 0, 0);
-        x.same(8, "told", 4).same(0, "told", 5).same(3, "told", 6).same(16, "told", 3).same(0, "about", 0, 0).same(NONE, "region", 0, 0);
+        x.same(8, "told", 4).same(0, "told", 5).same(3, "told", 6).same(16, "told", 3).same(0, "about", 0, 0)
+            .same(NONE, "region", 0, 0);
         x.due(0, "edge", 7, 0, 0).same(NONE, "given", 0, 0).due(3, "read").same(2, "told", 4).same(-8, "given", 0, 0);
     }
 
@@ -620,10 +672,12 @@ public final class CallBoundsTest {
 
     private static void toldEnds() {
         Watch x = watch("28 (0) to (6)").read(NOT_CLEAR).due(0, "machine", 4);
-        x.same(0, "told", 0).same(0, "told", 1).same(0, "told", 2).same(21, "told", 3).same(2, "told", 4).same(1, "told", 5).same(4, "told", 6);
+        x.same(0, "told", 0).same(0, "told", 1).same(0, "told", 2).same(21, "told", 3).same(2, "told", 4)
+            .same(1, "told", 5).same(4, "told", 6);
         x.refused(BAD, "told", 7).refused(BAD, "told", -1).refused(BAD, "told", MOST).refused(BAD, "told", LEAST);
         x.refused(NO, "cost", 0).refused(NO, "tail", 1).same(4, "told", 0).same(2, "told", 1).same(0, "told", 2);
-        x.due(0, "draw", 0, 6, 0).refused(FULL, "parameter", 0, 311).same(1, "told", 2).same(2, "told", 1).same(4, "told", 0);
+        x.due(0, "draw", 0, 6, 0).refused(FULL, "parameter", 0, 311).same(1, "told", 2).same(2, "told", 1)
+            .same(4, "told", 0);
         // what goes leaves how often as it is
         x.due(0, "anew").due(21, "clear").same(4, "told", 0).same(2, "told", 1).same(1, "told", 2).same(4, "told", 6);
     }
@@ -655,7 +709,8 @@ public final class CallBoundsTest {
             all[at + 2] = 99 - e;
             System.arraycopy(all, 8 + 7 * (9 - e % 9), all, at + 3, 6);
         }
-        full.due(FULL, "block").due(FULL, "edge", 0, 0, 0).due(FULL, "parameter", 0, 311).type("b".repeat(120)).due(FULL, "type", 0);
+        full.due(FULL, "block").due(FULL, "edge", 0, 0, 0).due(FULL, "parameter", 0, 311).type("b".repeat(120))
+            .due(FULL, "type", 0);
         all[2] = 4;
         all[3] = 120;
         all[4] = 10;

@@ -126,7 +126,8 @@ public final class TermsBoundsTest {
             }
         }
         watch("of the BLOCK: another one may have the like").due(0, "block").due(1, "block")
-            .due(0, "parameter", 0, 4).due(0, "parameter", 1, 4).due(1, "parameter", 1, 42).refused(NO, "parameter", 0, 22);
+            .due(0, "parameter", 0, 4).due(0, "parameter", 1, 4).due(1, "parameter", 1, 42)
+                .refused(NO, "parameter", 0, 22);
     }
 
     // "Two REGIONS are ACROSS, if they are unlike and have a byte in common."
@@ -292,7 +293,8 @@ public final class TermsBoundsTest {
         x.due(162, "argument", 0, 1, 102).same(1, "of", 0, 3).due(102, "argument", 0, 1, 122).same(0, "of", 0, 3);
         sentence = "like ones are not ACROSS";
         x = watch(sentence).read("b 4 84;e0 0 0:124 124;");
-        x.same(1, "of", 0, 3).due(124, "argument", 0, 1, 4).same(1, "of", 0, 3).due(4, "argument", 0, 1, 44).same(1, "of", 0, 3);
+        x.same(1, "of", 0, 3).due(124, "argument", 0, 1, 4).same(1, "of", 0, 3).due(4, "argument", 0, 1, 44)
+            .same(1, "of", 0, 3);
     }
 
     private static void clearOfOneOrNoParameter() {
@@ -434,7 +436,8 @@ public final class TermsBoundsTest {
     // "Is there none, all that are OPEN make rings", "none of them is OPEN then; else a MOVE to THE SPARE from p"
 
     private static void ringsOfTheWholeBlock() {
-        ring("a ring of the whole BLOCK", PLAIN, 4, 6).same(1, "rings", 0, 0).same(6, "rings", 0, 1).same(0, "rings", 0, 2)
+        ring("a ring of the whole BLOCK", PLAIN, 4, 6).same(1, "rings", 0, 0).same(6, "rings", 0, 1)
+            .same(0, "rings", 0, 2)
             .steps(0, MOVE, 324, 4, MOVE, 4, 44, MOVE, 44, 84, MOVE, 84, 124, MOVE, 124, 164, MOVE, 164, 204, MOVE, 204, 324);
         ring("a ring of the whole BLOCK", CHANGER, 4, 6)
             .steps(0, CHANGE, 4, 44, CHANGE, 44, 84, CHANGE, 84, 124, CHANGE, 124, 164, CHANGE, 164, 204);
@@ -463,7 +466,8 @@ public final class TermsBoundsTest {
     private static void spareIsNoRegion() {
         for (int w : WIDTHS) {
             Watch x = ring("320 and the width", PLAIN, w, 3);
-            x.same(320 + w, "step", 0, 0, 1).same(w, "step", 0, 0, 2).same(20 * w + w, "step", 0, 3, 1).same(320 + w, "step", 0, 3, 2);
+            x.same(320 + w, "step", 0, 0, 1).same(w, "step", 0, 0, 2).same(20 * w + w, "step", 0, 3, 1)
+                .same(320 + w, "step", 0, 3, 2);
             x.refused(BAD, "argument", 0, 0, 320 + w).refused(BAD, "parameter", 1, 320 + w);
             x.same(10 * (w == 4 ? 12 : 3 * w) + w, "free", 0, w);
         }

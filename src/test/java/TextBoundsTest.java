@@ -84,7 +84,8 @@ public final class TextBoundsTest {
         for (int n = 1; n <= 120; n++) {
             x.due(n, "type", n == 119 ? 'b' : n == 120 ? ';' : ' ');
         }
-        x.same(120, "told", 3).refused(FULL, "type", 'x').refused(FULL, "type", 0).refused(BAD, "type", 128).same(120, "told", 3);
+        x.same(120, "told", 3).refused(FULL, "type", 'x').refused(FULL, "type", 0).refused(BAD, "type", 128)
+            .same(120, "told", 3);
         // the byte that was refused is not there
         x.due(1, "read").same(1, "told", 4).due(120, "clear").same(0, "told", 3).due(0, "clear").due(1, "type", 'x');
         x = watch().type(" ".repeat(119) + "b").same(-420, "read").refused(FULL, "type", ';').same(-420, "read");
@@ -126,7 +127,8 @@ public final class TextBoundsTest {
         sentence = "ITEMS are read: how many";
         itemsAre(TEN_BLOCKS + "e0 0 0;".repeat(14), 24);
         itemsAre("b;" + SIXTEEN_EDGES, 17);
-        Watch x = watch().type(TEN_BLOCKS + "e9 9 99;".repeat(12)).due(22, "read").same(10, "told", 4).same(12, "told", 5);
+        Watch x = watch().type(TEN_BLOCKS + "e9 9 99;".repeat(12)).due(22, "read").same(10, "told", 4)
+            .same(12, "told", 5);
         x.same(12, "about", 9, 1).same(9, "of", 11, 0).same(9, "of", 11, 1).same(99, "of", 11, 2);
     }
 
@@ -164,8 +166,10 @@ public final class TextBoundsTest {
         sentence = "then perhaps : and as many ARGUMENTS";
         Watch x = watch().read("b 4 42;e0 0 0;e0 0 0:44 #0;").same(4, "given", 0, 0).same(42, "given", 0, 1);
         x.same(44, "given", 1, 0).same(-1, "given", 1, 1).same(NONE, "given", 1, 2);
-        x = watch().read("b 4 44 84 124 164 204;e0 0 0:#0 #99 4 284 164 204;").same(-1, "given", 0, 0).same(-100, "given", 0, 1);
-        x.same(4, "given", 0, 2).same(284, "given", 0, 3).same(164, "given", 0, 4).same(204, "given", 0, 5).same(NONE, "given", 0, 6);
+        x = watch().read("b 4 44 84 124 164 204;e0 0 0:#0 #99 4 284 164 204;").same(-1, "given", 0, 0)
+            .same(-100, "given", 0, 1);
+        x.same(4, "given", 0, 2).same(284, "given", 0, 3).same(164, "given", 0, 4).same(204, "given", 0, 5)
+            .same(NONE, "given", 0, 6);
     }
 
     private static void numbersHave1To3Figures() {
@@ -485,6 +489,7 @@ public final class TextBoundsTest {
             x.same(-6, "given", 0, 0).same(NONE, "given", 0, 1).same(0, "about", 0, 0).same(texts[i].length(), "told", 3);
         }
         // what a fault left behind is not seen in what is read next
-        x.read("b;b 42;e0 1 5;").same(42, "given", 0, 0).same(NONE, "given", 0, 1).same(0, "about", 0, 0).same(1, "told", 0);
+        x.read("b;b 42;e0 1 5;").same(42, "given", 0, 0).same(NONE, "given", 0, 1).same(0, "about", 0, 0)
+            .same(1, "told", 0);
     }
 }
